@@ -1078,7 +1078,7 @@ public final class CardCutter {
             for (int n = reclaimed; n < posted; n++) {
                 Send s = sendAt(n);
                 Flow f = s == null ? null : flowAt(s.flow);
-                if (f != null && s.state == POSTED) {
+                if (s != null && f != null && s.state == POSTED) {
                     s.cutUp(time, f.first + f.seenBytes);
                     f.seenBytes += s.length;
                     for (int k = 0; k < s.pieces; k++) {
@@ -1099,7 +1099,7 @@ public final class CardCutter {
         int dropSend(int number) {
             Send s = knownSend(number);
             Flow f = s == null ? null : flowAt(s.flow);
-            if (f == null) {
+            if (s == null || f == null) {
                 return NONE;
             }
             int had = s.pieces;
@@ -1139,7 +1139,7 @@ public final class CardCutter {
                     tally.busy++;
                 } else {
                     tally.idle++;
-                    tally.starved += departingIn(0, time + 1) > 0 ? 1 : 0;
+                    tally.starved += readySend(true) == null ? 0 : 1;
                 }
                 time++;
                 if (holdSend != NONE && holdUntil <= time) {
@@ -1150,9 +1150,9 @@ public final class CardCutter {
         }
 
         boolean letLeave() {
-            Send s = readySend();
+            Send s = readySend(false);
             Flow f = s == null ? null : flowAt(s.flow);
-            if (f == null) {
+            if (s == null || f == null) {
                 return false;
             }
             int k = s.away;
@@ -1167,12 +1167,13 @@ public final class CardCutter {
             return true;
         }
 
-        Send readySend() {
+        Send readySend(boolean evenPaused) {
             Send best = null;
             int least = time + 1;
             for (int n = reclaimed; n < posted; n++) {
                 Send s = sendAt(n);
-                if (s != null && s.waits() && !isPaused(s.flow) && depart[s.indexOf(s.away)] < least) {
+                if (s != null && s.waits() && (evenPaused || !isPaused(s.flow))
+                        && depart[s.indexOf(s.away)] < least) {
                     best = s;
                     least = depart[s.indexOf(s.away)];
                 }
@@ -1184,7 +1185,7 @@ public final class CardCutter {
             Send s = sendAt(holdSend);
             Flow f = s == null ? null : flowAt(s.flow);
             holdSend = NONE;
-            if (f == null) {
+            if (s == null || f == null) {
                 return;
             }
             int k = s.away - 1;

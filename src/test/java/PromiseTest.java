@@ -128,6 +128,12 @@ public final class PromiseTest {
         wrongAt("bells", 0);
         wrongAt("Bell", 0);
         wrongAt("bel", 0);
+        wrongAt("bellz", 0);
+        wrongAt("bella", 0);
+        wrongAt("bell{", 4);
+        wrongAt("bell`", 4);
+        wrongAt("tick 1/", 6);
+        wrongAt("tick 1:", 6);
         wrongAt("bell" + (char) 233, 4);
         wrongAt("card", 4);
         wrongAt("card 4 ", 7);
@@ -302,6 +308,38 @@ public final class PromiseTest {
         due("rate 1000", of(() -> x.rate(0, 1000)), ARGUMENT);
         due("no flow", of(() -> x.rate(1, 999)), STATE);
         due("why 2", x.why(), 2);
+    }
+
+    static void pausesAndRatesByText() {
+        make("flow 1;flow 2;flow 3;flow 4;flow 5;flow 6;pause 5;pause 4;go 5;rate 5 999;rate 4 0");
+        due("gone on", x.flow(5, 2), 0);
+        due("paused", x.flow(4, 2), 1);
+        due("not paused", x.flow(3, 2), 0);
+        due("rate", x.flow(5, 0), 999);
+        due("rate", x.flow(4, 0), 0);
+        right("send 5 40 10 at 7;drop 0;send 5 1 10;go 4;pause 5", 5);
+        due("dropped", x.told(0, 4), 3);
+        due("at", x.told(0, 3), 7);
+        due("at without", x.told(1, 3), 0);
+        wrongAt("go 4", 0);
+        wrongAt("pause 5", 0);
+    }
+
+    static void farPlaces() {
+        make("card 8 40 8;flow 0 from 9999");
+        String eight = "send 0 200 100;send 0 200 100;send 0 200 100;send 0 200 100;send 0 200 100;send 0 200 100;"
+            + "send 0 200 100;send 0 200 100;tick 99";
+        for (int i = 0; i < 35; i++) {
+            right(eight, 9);
+        }
+        due("place of send 272", x.told(272, 8), 9999 + 272 * 200);
+        due("upper 16 bits", x.octet(277, 1, 5), 0);
+        due("lower 16 bits", x.octet(277, 1, 6) * 256 + x.octet(277, 1, 7), 65499);
+        due("upper 16 bits", x.octet(278, 0, 5), 1);
+        due("their higher byte", x.octet(278, 0, 4), 0);
+        due("lower 16 bits", x.octet(278, 0, 6) * 256 + x.octet(278, 0, 7), 63);
+        due("where", x.log(x.count(16) - 4, 7), 65599);
+        due("64 times 278", x.octet(278, 1, 2) * 256 + x.octet(278, 1, 3), 64 * 278 + 1);
     }
 
     static void ticks() {
@@ -727,6 +765,8 @@ public final class PromiseTest {
         bells();
         drops();
         pausesAndRates();
+        pausesAndRatesByText();
+        farPlaces();
         ticks();
         choice();
         undos();
