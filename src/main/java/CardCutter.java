@@ -1420,39 +1420,32 @@ public final class CardCutter {
             return open == 0 && end <= MOST_TIME ? end : NONE;
         }
 
+        /**
+         * By a greater rate no piece of the flow may leave later, and none of another flow comes ahead of the send's
+         * last piece that did not before; so the send is done no later, and rates can be halved.
+         */
         int leastRate(Card card, Send s, int limit) {
             beginAsTimed(card);
-            int next = 1;
-            for (int rate = 1; rate <= MOST_RATE; rate++) {
-                if (rate == next) {
-                    begin(card);
-                    card.putDeparts(s.flow, rate, depart);
-                    if (runToEnd(card, s, limit) <= limit) {
-                        return rate;
-                    }
-                    next = nextRate(card, s.flow, rate);
+            if (!isDoneBy(card, s, MOST_RATE, limit)) {
+                return NONE;
+            }
+            int least = 1;
+            int most = MOST_RATE;
+            for (int i = 0; i < MOST_RATE && least < most; i++) {
+                int middle = (least + most) / 2;
+                if (isDoneBy(card, s, middle, limit)) {
+                    most = middle;
+                } else {
+                    least = middle + 1;
                 }
             }
-            return NONE;
+            return most;
         }
 
-        /** The least greater rate by which some gap of the flow is less: all rates below it time alike. */
-        int nextRate(Card card, int flow, int rate) {
-            Flow f = card.flowAt(flow);
-            int next = f == null ? MOST_RATE + 1 : rateOfLessGap(f.lastSize, rate);
-            for (int n = card.reclaimed; n < card.posted; n++) {
-                Send s = card.sendAt(n);
-                if (s != null && s.waits() && s.flow == flow) {
-                    next = Math.min(next, rateOfLessGap(s.sizeOf(s.away), rate));
-                    next = Math.min(next, rateOfLessGap(s.sizeOf(s.pieces - 1), rate));
-                }
-            }
-            return next;
-        }
-
-        static int rateOfLessGap(int size, int rate) {
-            int gap = gapOf(size, rate);
-            return gap <= 1 ? MOST_RATE + 1 : roundedUp(10 * size, gap - 1);
+        boolean isDoneBy(Card card, Send s, int rate, int limit) {
+            begin(card);
+            card.putDeparts(s.flow, rate, depart);
+            return runToEnd(card, s, limit) <= limit;
         }
     }
 

@@ -1200,7 +1200,7 @@ public final class ModelTest {
         }
     }
 
-    /** Several sends of several flows at once, and many times asked for: a greater rate need not be done earlier. */
+    /** Several sends of several flows at once, and many times asked for, against every rate in turn. */
     static void leastRun(int seed) {
         dice = new Random(seed);
         brisk = false;
