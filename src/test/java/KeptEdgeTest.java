@@ -1,4 +1,4 @@
-/** The boundary cases that the document's terms name from KNOWN on: what is kept, counted and reckoned, ON PAPER too. */
+/** The boundary cases that the terms name from KNOWN on: what is kept, counted and reckoned, ON PAPER too. */
 public final class KeptEdgeTest extends Asked {
 
     /** Sends of one piece that has the wire for one tick, each done ahead of the next. */
@@ -33,6 +33,15 @@ public final class KeptEdgeTest extends Asked {
     }
 
     static void bells() {
+        terms(39, "BELLS that rang;");
+        make("card 8 40 2;flow 0;send 0 1 10");
+        due("none yet", x.count(8), 0);
+        x.send(0, 1, 10, 0);
+        due("by a batch", x.count(8), 1);
+        x.bell();
+        due("by hand", x.count(8), 2);
+        right("send 0 1 10;bell;bell", 3);
+        due("by a text", x.count(8), 4);
         terms(39, "SAVED: SENDS that were SEEN, less BELLS that made one SEEN at least.");
         make("card 8 40 3;flow 0");
         x.bell();
@@ -110,8 +119,8 @@ public final class KeptEdgeTest extends Asked {
     }
 
     static void wires() {
-        terms(39, "BUSY, IDLE: TICKS in which the wire had a PIECE, had none; STARVED: of the IDLE ones those in which some"
-            + " PIECE that did not leave had DEPART of that TICK or less (its FLOW being PAUSED).");
+        terms(39, "BUSY, IDLE: TICKS in which the wire had a PIECE, had none; STARVED: of the IDLE ones those in"
+            + " which some PIECE that did not leave had DEPART of that TICK or less (its FLOW being PAUSED).");
         make("card 8 10 1;flow 0;flow 0;pause 0");
         x.send(0, 1, 10, 3);
         x.tick(3);
@@ -162,8 +171,8 @@ public final class KeptEdgeTest extends Asked {
         make("card 8 10 1;flow 0;send 0 16 10;tick 9");
         due("at its depart", x.log(0, 6), 0);
         due("when the wire was free", x.log(1, 6), 3);
-        terms(19, "BURST of a FLOW and N (1 to 99): of rows of THE LOG of that FLOW the most SIZE, together, of those that"
-            + " LEFT in any N TICKS one behind another.");
+        terms(19, "BURST of a FLOW and N (1 to 99): of rows of THE LOG of that FLOW the most SIZE, together, of those"
+            + " that LEFT in any N TICKS one behind another.");
         make("card 8 40 1;flow 0;flow 0");
         due("no rows", of(() -> x.burst(0, 99)), 0);
         x.send(0, 1, 10, 0);
@@ -183,18 +192,21 @@ public final class KeptEdgeTest extends Asked {
         x.tick(99);
         due("98 apart, 98 ticks", of(() -> x.burst(0, 98)), 22);
         due("98 apart, 99 ticks; 99 apart", of(() -> x.burst(0, 99)), 35);
-        none("burst of 0", () -> x.burst(0, 0), ARGUMENT);
-        none("burst of 100", () -> x.burst(0, 100), ARGUMENT);
-        none("burst of -1", () -> x.burst(0, -1), ARGUMENT);
+        make("card 8 40 1;flow 0;flow 0;send 0 1 10;send 1 9 10 at 1;send 0 3 10 at 2;tick 9");
+        due("another flow's row is not counted", of(() -> x.burst(0, 3)), 28);
+        due("nor one of this for the other", of(() -> x.burst(1, 9)), 21);
     }
 
     static void merges() {
-        terms(23, "those put together whose bytes follow right behind those of the row ahead (of that FLOW; so again and"
-            + " again): how many there are then, the most bytes (HEADS aside) of one");
+        terms(23, "those put together whose bytes follow right behind those of the row ahead (of that FLOW; so again"
+            + " and again): how many there are then, the most bytes (HEADS aside) of one");
         make("card 8 40 1;flow 0;flow 0 from 20;flow 0 from 7");
         due("no rows", of(() -> x.merged(0, false)), 0);
         due("no bytes", of(() -> x.merged(0, true)), 0);
         x.send(0, 20, 10, 0);
+        x.tick(1);
+        due("one row", of(() -> x.merged(0, false)), 1);
+        due("its bytes", of(() -> x.merged(0, true)), 10);
         x.send(1, 10, 10, 1);
         x.send(0, 5, 10, 1);
         x.tick(9);
@@ -211,8 +223,8 @@ public final class KeptEdgeTest extends Asked {
         due("none of flow 2", of(() -> x.merged(2, false)), 0);
         make("card 8 40 1;flow 0;send 0 200 10;send 0 200 10;send 0 200 10;tick 41");
         due("40 rows", of(() -> x.merged(0, true)), 400);
-        terms(24, "SHARE of a FLOW: SIZES of its rows of THE LOG by those of all rows, in hundredths, rounded down (0 without"
-            + " rows).");
+        terms(24, "SHARE of a FLOW: SIZES of its rows of THE LOG by those of all rows, in hundredths, rounded down (0"
+            + " without rows).");
         make("card 8 40 1;flow 0;flow 0;flow 0");
         due("no rows", of(() -> x.share(0)), 0);
         x.send(0, 1, 10, 0);
@@ -232,8 +244,8 @@ public final class KeptEdgeTest extends Asked {
     }
 
     static void calendars() {
-        terms(25, "PIECES that did not leave with DEPART of TIME and k times N at least (of k 0 also less), less than that"
-            + " and N");
+        terms(25, "PIECES that did not leave with DEPART of TIME and k times N at least (of k 0 also less), less than"
+            + " that and N");
         make("card 8 40 1;flow 0;flow 0;pause 0");
         x.send(0, 1, 10, 20);
         x.tick(10);
@@ -254,8 +266,8 @@ public final class KeptEdgeTest extends Asked {
         due("101 of 99", of(() -> x.calendar(99, 101)), 1);
         due("100 of 99", of(() -> x.calendar(99, 100)), 0);
         due("9999 of 99", of(() -> x.calendar(99, 9999)), 0);
-        terms(26, "DELAY of a FLOW: LATE of its rows of THE LOG, together, by how many there are, in hundredths, rounded"
-            + " down; none without rows.");
+        terms(26, "DELAY of a FLOW: LATE of its rows of THE LOG, together, by how many there are, in hundredths,"
+            + " rounded down; none without rows.");
         make("card 8 10 1;flow 0;flow 0;send 0 8 10;send 0 8 10 at 1;send 0 8 10 at 3");
         due("none", of(() -> x.delay(0)), -1);
         x.tick(1);
@@ -265,6 +277,12 @@ public final class KeptEdgeTest extends Asked {
         x.tick(2);
         due("2 by 3", of(() -> x.delay(0)), 66);
         due("none of the other", of(() -> x.delay(1)), -1);
+        terms(27, "how many TICKS lie between the last one in which the wire had the PIECE of the row ahead (by WIRE, its"
+            + " SIZE) and when this one LEFT");
+        make("card 8 40 1;flow 0;send 0 28 40;send 0 29 41 at 1;send 0 1 10 at 4;tick 9");
+        due("40 bytes to 1, 41 bytes to 3, then 4", x.rest(), 1);
+        make("card 8 1 1;flow 0;flow 0;pause 0;send 0 1 10;send 1 1 10;tick 13;tick 5;go 0;tick 1");
+        due("13 bytes to 13, then 18", x.rest(), 5);
         terms(27, "the most; none with fewer than 2 rows");
         make("card 8 10 1;flow 0;send 0 8 10;send 0 9 10;send 0 8 10 at 9;send 0 8 10 at 12");
         asks("no row", () -> x.rest(), -1);
@@ -276,9 +294,10 @@ public final class KeptEdgeTest extends Asked {
         due("2 to 5, then 9", x.rest(), 4);
         x.tick(9);
         due("9 to 11, then 12", x.rest(), 4);
-        terms(18, "the greatest less the least number of TICKS between two rows of it one behind the other in THE LOG (when"
-            + " they LEFT); none with fewer than 3 rows");
-        make("card 8 40 1;flow 0;flow 0;send 0 1 10;send 0 1 10 at 4;send 0 1 10 at 8;send 0 1 10 at 19;send 1 1 10 at 5");
+        terms(18, "the greatest less the least number of TICKS between two rows of it one behind the other in THE LOG"
+            + " (when they LEFT); none with fewer than 3 rows");
+        make("card 8 40 1;flow 0;flow 0;send 0 1 10;send 0 1 10 at 4;send 0 1 10 at 8;send 0 1 10 at 19;"
+            + "send 1 1 10 at 5");
         due("no row", x.flow(0, 7), -1);
         x.tick(4);
         due("one row", x.flow(0, 7), -1);
@@ -289,6 +308,8 @@ public final class KeptEdgeTest extends Asked {
         x.tick(11);
         due("4, 4, 11", x.flow(0, 7), 7);
         due("one row of another flow", x.flow(1, 7), -1);
+        make("card 8 40 1;flow 0;send 0 1 10;send 0 1 10 at 11;send 0 1 10 at 15;send 0 1 10 at 19;tick 20");
+        due("11, 4, 4", x.flow(0, 7), 7);
     }
 
     static int brought(int sum) {
@@ -397,8 +418,8 @@ public final class KeptEdgeTest extends Asked {
     }
 
     static void leasts() {
-        terms(35, "the least RATE of its FLOW from now on, of 1 to 999, by which it would be DONE at that time at the latest;"
-            + " none (also if it is DONE, DROPPED, not SEEN)");
+        terms(35, "the least RATE of its FLOW from now on, of 1 to 999, by which it would be DONE at that time at the"
+            + " latest; none (also if it is DONE, DROPPED, not SEEN)");
         make("card 8 10 2;flow 0;send 0 20 10");
         due("not seen", of(() -> x.least(0, 9999)), -1);
         x.bell();
@@ -478,8 +499,8 @@ public final class KeptEdgeTest extends Asked {
     }
 
     static void queues() {
-        terms(28, "QUEUE: of PIECES in the order in which they would leave from now on the k-th (0 the first): 64 times its"
-            + " SEND and its number, together, and when; none.");
+        terms(28, "QUEUE: of PIECES in the order in which they would leave from now on the k-th (0 the first): 64"
+            + " times its SEND and its number, together, and when; none.");
         due("no sends", x.queue(0, false), -1);
         make("card 8 40 1;flow 0");
         for (int n = 0; n < 8; n++) {
@@ -505,7 +526,8 @@ public final class KeptEdgeTest extends Asked {
         x.drop(0);
         due("at 9998", x.queue(0, true), 9998);
         due("and no more", x.queue(1, true), -1);
-        terms(36, "FIRST of all: which PIECE (64 times its SEND and its number, together) would leave next, and when; none.");
+        terms(36, "FIRST of all: which PIECE (64 times its SEND and its number, together) would leave next, and when;"
+            + " none.");
         asks("none", () -> x.first(false), -1);
         asks("none", () -> x.first(true), -1);
         make("card 8 10 1;flow 0;flow 0;pause 0;send 0 8 10;send 1 16 10 at 4");
@@ -526,6 +548,30 @@ public final class KeptEdgeTest extends Asked {
         toTime(9999);
         x.send(0, 1, 10, 0);
         due("time 9999", x.first(true), -1);
+    }
+
+    static void fullCard() {
+        terms(28, "ON PAPER (no ACT but TICKS, to time 9999 at most; nothing stays)");
+        make("card 8 40 8;flow 0;flow 0");
+        for (int n = 0; n < 8; n++) {
+            x.send(n / 4, 200, 10, 0);
+        }
+        due("pieces", x.flow(0, 3) + x.flow(1, 3), 160);
+        asks("ends", () -> x.ends(7), 160);
+        asks("last", () -> x.last(), 160);
+        asks("quiet", () -> x.quiet(), 160);
+        asks("works", () -> x.works(9999), 160);
+        asks("works", () -> x.works(159), 159);
+        asks("queue", () -> x.queue(159, true), 159);
+        asks("least", () -> x.least(7, 160), 110);
+        asks("least", () -> x.least(7, 159), -1);
+        asks("least", () -> x.least(7, 9999), 2);
+        refused("a ninth send", () -> x.send(0, 1, 10, 0), 3);
+        for (int time = 0; time < 160; time++) {
+            x.tick(1);
+        }
+        due("and so it is", x.told(7, 7), 160);
+        due("all is done", x.last(), 160);
     }
 
     static void images() {
@@ -555,6 +601,11 @@ public final class KeptEdgeTest extends Asked {
         x.tick(1);
         due("back to the latest image", x.back(), true);
         alike("as it was", all(), later);
+        busy();
+        x.image();
+        String on = later();
+        due("back", x.back(), true);
+        alike("it goes on as it did", later(), on);
     }
 
     static void exceptions() {
@@ -577,8 +628,15 @@ public final class KeptEdgeTest extends Asked {
         none("log: no row, no what", () -> x.log(0, 8), ELEMENT);
         toTime(9999);
         none("tick: no ticks, none can be", () -> x.tick(0), ARGUMENT);
-        terms(4, "a call that throws changes nothing but the TAPE, where it is used up, fault(), where a text is read, and WHY,"
-            + " where an ACT is refused");
+        terms(16, "IndexOutOfBoundsException: there is no such FLOW, KNOWN SEND, PIECE, byte.");
+        make("card 1 40 1;flow 0;send 0 1 10;tick 1;send 0 1 10");
+        due("all are there", of(() -> x.octet(1, 0, 12)), 7);
+        none("no known send", () -> x.octet(0, 0, 12), INDEX);
+        none("no piece", () -> x.octet(1, 1, 12), INDEX);
+        none("no byte", () -> x.octet(1, 0, 13), INDEX);
+        none("no flow", () -> x.flow(1, 0), INDEX);
+        terms(4, "a call that throws changes nothing but the TAPE, where it is used up, fault(), where a text is"
+            + " read, and WHY, where an ACT is refused");
         make("card 4 10 2;flow 7;flow 8;send 0 30 10;send 1 1 10;tick 1");
         x.bell();
         wrongBy("bell;drop 9", 5, 4);
@@ -613,6 +671,7 @@ public final class KeptEdgeTest extends Asked {
         leasts();
         works();
         queues();
+        fullCard();
         images();
         exceptions();
         finish("kept", 1, 0);

@@ -240,8 +240,8 @@ public final class PromiseEdgeTest extends Asked {
     }
 
     static void tolds() {
-        promise(14, "4 0 POSTED, 1 SEEN, 2 DONE, 3 DROPPED, 5 PIECES (0 of one that is POSTED, DROPPED), 6 when it was SEEN, 7"
-            + " when DONE (NONE), 8 PLACE (NONE of one that was not SEEN)");
+        promise(14, "4 0 POSTED, 1 SEEN, 2 DONE, 3 DROPPED, 5 PIECES (0 of one that is POSTED, DROPPED), 6 when it"
+            + " was SEEN, 7 when DONE (NONE), 8 PLACE (NONE of one that was not SEEN)");
         make("card 8 10 2;flow 0 from 9;tick 4;send 0 30 10");
         told(0, new int[] {0, 30, 10, 0, 0, 0, -1, -1, -1});
         x.drop(0);
@@ -256,6 +256,15 @@ public final class PromiseEdgeTest extends Asked {
         told(1, new int[] {0, 8, 10, 3, 2, 1, 4, 6, 9});
         x.drop(2);
         told(2, new int[] {0, 20, 100, 9999, 3, 0, 4, -1, 17});
+        make("card 8 40 8;flow 0;tick 1");
+        for (int n = 0; n < 8; n++) {
+            x.send(0, 200, 10, 5);
+        }
+        x.tick(40);
+        due("done", x.told(0, 4), 2);
+        x.send(0, 7, 11, 0);
+        told(8, new int[] {0, 7, 11, 0, 0, 0, -1, -1, -1});
+        none("no piece of it", () -> x.piece(8, 0, 0), INDEX);
         promise(14, "NoSuchElementException: another what.");
         make("card 2 10 1;flow 0;send 0 1 10;drop 0;send 0 1 10;drop 1;send 0 1 10");
         whats("told", 9, what -> x.told(2, what));
@@ -271,7 +280,8 @@ public final class PromiseEdgeTest extends Asked {
     }
 
     static void pieces() {
-        promise(15, "Of a PIECE of a KNOWN SEND what 0 SIZE, 1 DEPART, 2 when it LEFT, 3 when it was GONE (NONE), 4 SUM.");
+        promise(15, "Of a PIECE of a KNOWN SEND what 0 SIZE, 1 DEPART, 2 when it LEFT, 3 when it was GONE (NONE), 4"
+            + " SUM.");
         make("card 2 10 1;flow 0;send 0 15 10 at 3;tick 3");
         int sum = x.piece(0, 0, 4);
         pieceIs(0, 0, new int[] {22, 3, -1, -1, sum});
@@ -358,8 +368,9 @@ public final class PromiseEdgeTest extends Asked {
     }
 
     static void flows() {
-        promise(18, "Of a FLOW what 0 RATE, 1 FIRST, 2 1 if PAUSED, 3 PIECES that did not leave, 4 NEXT behind all of these, 5"
-            + " bytes of its SENDS that are GONE (HEADS aside), 6 SENDS of it that are DONE, 7 JITTER (NONE).");
+        promise(18, "Of a FLOW what 0 RATE, 1 FIRST, 2 1 if PAUSED, 3 PIECES that did not leave, 4 NEXT behind all of"
+            + " these, 5 bytes of its SENDS that are GONE (HEADS aside), 6 SENDS of it that are DONE, 7 JITTER"
+            + " (NONE).");
         make("card 8 10 2;flow 10 from 5;flow 0");
         flowIs(new int[] {10, 5, 0, 0, 0, 0, 0, -1});
         x.send(0, 15, 10, 0);
@@ -431,8 +442,8 @@ public final class PromiseEdgeTest extends Asked {
     }
 
     static void latests() {
-        promise(22, "The k-th of LOG rows by LATE, the greatest first, of like ones the eldest: its number in THE LOG; NONE"
-            + " without.");
+        promise(22, "The k-th of LOG rows by LATE, the greatest first, of like ones the eldest: its number in THE"
+            + " LOG; NONE without.");
         due("no rows", x.latest(0), -1);
         make("card 8 10 1;flow 0;flow 0;send 0 24 10 at 1;send 1 8 10 at 20;send 0 8 10 at 22;send 1 8 10 at 23");
         x.tick(40);
@@ -510,7 +521,7 @@ public final class PromiseEdgeTest extends Asked {
         asks("when 0", () -> x.queue(0, true), 0);
         asks("1", () -> x.queue(1, false), 1);
         asks("when 1", () -> x.queue(1, true), 3);
-        for (int k : new int[] {2, -1, 160, MOST, LEAST}) {
+        for (int k : new int[] {2, 3, 4, 159, -1, 160, MOST, LEAST}) {
             due("queue " + k, x.queue(k, false), -1);
             due("when " + k, x.queue(k, true), -1);
         }
@@ -633,9 +644,9 @@ public final class PromiseEdgeTest extends Asked {
     }
 
     static void counts() {
-        promise(39, "0 RING, 1 WIRE, 2 BATCH, 3 FLOWS, 4 TIME, 5 SENDS POSTED so far, 6 RECLAIMED, 7 POSTED, not SEEN nor"
-            + " DROPPED, 8 BELLS, 9 SAVED, 10 DONE, 11 EARLY, 12 HELD, 13 BUSY, 14 IDLE, 15 STARVED, 16 rows of THE LOG, 17"
-            + " 1 if the wire has a PIECE, 18 what is remembered.");
+        promise(39, "0 RING, 1 WIRE, 2 BATCH, 3 FLOWS, 4 TIME, 5 SENDS POSTED so far, 6 RECLAIMED, 7 POSTED, not SEEN"
+            + " nor DROPPED, 8 BELLS, 9 SAVED, 10 DONE, 11 EARLY, 12 HELD, 13 BUSY, 14 IDLE, 15 STARVED, 16 rows"
+            + " of THE LOG, 17 1 if the wire has a PIECE, 18 what is remembered.");
         make("card 7 10 2;flow 0;flow 0;tick 2;send 0 8 10;drop 0;send 0 8 10;send 1 8 10;pause 0;tick 3");
         x.send(1, 8, 10, 0);
         x.tick(1);
@@ -655,9 +666,8 @@ public final class PromiseEdgeTest extends Asked {
         due("count 18", x.count(18), 0);
     }
 
-    /** What the object promises for 512 calls: the last of these is answered as well. */
     static void manyCalls() {
-        promise(39, "8 BELLS");
+        terms(39, "An object is used for at most 512 calls after it has been made");
         for (int call = 1; call <= 511; call++) {
             x.bell();
         }

@@ -70,6 +70,10 @@ public final class TermsEdgeTest extends Asked {
         rich();
         right("card 4 10 1", 1);
         alike("card as at first", all(), atFirst);
+        busy();
+        right("card 4 10 1", 1);
+        alike("card as at first", all(), atFirst);
+        alike("flows are as at first", flowsAndOn(), newFlowsAndOn());
         rich();
         toTime(9999);
         right("card 8 40 2", 1);
@@ -77,8 +81,18 @@ public final class TermsEdgeTest extends Asked {
         due("tick", of(() -> x.tick(99)), 0);
         right("flow 1;send 0 1 10;send 0 1 10", 3);
         due("numbers from 0 on", x.told(1, 8), 1);
-        due("the paused are none", x.flow(0, 2), 0);
         due("no next", x.flow(0, 4), 99 + 130 + 130);
+    }
+
+    static String flowsAndOn() {
+        right(SIX_FLOWS, 6);
+        String flows = all();
+        return flows + later();
+    }
+
+    static String newFlowsAndOn() {
+        x = new CardCutter();
+        return flowsAndOn();
     }
 
     static void flows() {
@@ -160,7 +174,8 @@ public final class TermsEdgeTest extends Asked {
         wrongAt("bell;;bell", 5);
         wrongAt("bell bell", 5);
         wrongAt("bell,bell", 4);
-        terms(4, "card N N N | flow N [ from N ] | send N N N [ at N ] | bell | drop N | pause N | go N | rate N N | tick N");
+        terms(4, "card N N N | flow N [ from N ] | send N N N [ at N ] | bell | drop N | pause N | go N | rate N N |"
+            + " tick N");
         forms();
         terms(4, "flow: RATE, FIRST (0 without)");
         right("flow 7;flow 7 from 1", 2);
@@ -184,7 +199,15 @@ public final class TermsEdgeTest extends Asked {
         wrongAt("pause 6", 6);
         wrongAt("go 6", 3);
         make(SIX_FLOWS);
-        right("pause 5;pause 0;go 5;go 0", 4);
+        right("pause 5;pause 0", 2);
+        for (int flow = 0; flow < 6; flow++) {
+            due("paused", x.flow(flow, 2), flow == 0 || flow == 5 ? 1 : 0);
+        }
+        right("go 5", 1);
+        due("flow 0", x.flow(0, 2), 1);
+        due("flow 5", x.flow(5, 2), 0);
+        right("go 0", 1);
+        due("flow 0", x.flow(0, 2), 0);
         wrongAt("pause 6", 6);
         wrongAt("go 6", 3);
         terms(4, "rate: a FLOW 0 to 5, a RATE");
@@ -272,7 +295,12 @@ public final class TermsEdgeTest extends Asked {
         for (String word : "card flow send bell drop pause go rate tick".split(" ")) {
             wrongAt(word.substring(0, word.length() - 1), 0);
             wrongAt(word + "s", 0);
+            for (int i = 0; i < word.length(); i++) {
+                wrongAt(word.substring(0, i) + "x" + word.substring(i + 1) + " 1 1 1", 0);
+            }
         }
+        wrongAt("flow 0 xrom 1", 7);
+        wrongAt("send 0 1 10 xt 1", 12);
         terms(4, "between all there may be blanks (32), also ahead and behind");
         right("    ", 0);
         right("  card  4   10  1  ;  flow  1  from  2  ;  send  0  1  10  at  3  ;  bell  ", 4);
@@ -287,6 +315,16 @@ public final class TermsEdgeTest extends Asked {
     }
 
     static void firstWrong() {
+        terms(4, "They are done one behind another.");
+        wrongBy("send 0 1 10;flow 5", 0, 2);
+        right("flow 5;send 0 1 10", 2);
+        make("card 1 10 1;flow 0;send 0 1 10;tick 2;send 0 1 10;drop 1;send 0 1 10");
+        due("each slot is given back ahead of the next send", x.count(5), 3);
+        wrongBy("drop 2;send 0 1 10;tick 1;send 0 1 10", 26, 3);
+        wrongBy("drop 2;drop 2", 7, 4);
+        wrongBy("pause 0;pause 0", 8, 5);
+        right("pause 0;go 0;pause 0;rate 0 5;rate 0 6", 5);
+        due("the latest rate", x.flow(0, 0), 6);
         terms(5, "The first wrong byte: the begin of the first thing that cannot stand there");
         wrongAt("  bell ;  tock;tick 0", 10);
         wrongAt("tick 0;tock", 5);
@@ -322,6 +360,12 @@ public final class TermsEdgeTest extends Asked {
         wrongBy("card 1 1 1;flow 1;send 0 1 10;send 0 1 10;bell", 30, 3);
         due("remembered yet", of(() -> x.undo()), 2);
         due("taken back", x.flow(2, 0), 7);
+        busy();
+        String on = later();
+        busy();
+        wrongAt("send 0 99 10;bell;tick 99;pause 0;rate 1 5;go 2;send 3 9 10;tick 99;go 0;tick 9;x", 80);
+        wrongBy("card 7 7 7;flow 3;send 0 99 10;bell;tick 99;pause 0;rate 0 5;drop 0", 61, 4);
+        alike("it goes on as it would", later(), on);
     }
 
     static void refusals() {
@@ -432,7 +476,8 @@ public final class TermsEdgeTest extends Asked {
                 due("piece " + k + " of " + what, x.piece(0, k, 0), 12 + c[1]);
             }
         }
-        terms(14, "its PLACE is FIRST of its FLOW and LENGTH of all SENDS of that FLOW that were SEEN ahead of it, together");
+        terms(14, "its PLACE is FIRST of its FLOW and LENGTH of all SENDS of that FLOW that were SEEN ahead of it,"
+            + " together");
         make("card 8 40 8;flow 0 from 9999;flow 0");
         x.send(0, 200, 10, 0);
         x.send(1, 7, 10, 0);
@@ -450,8 +495,8 @@ public final class TermsEdgeTest extends Asked {
     }
 
     static void drops() {
-        terms(9, "DROP of a SEND that is POSTED, or SEEN and no PIECE of which LEFT: it is DROPPED, its PIECES are none any"
-            + " more (4: it is not so)");
+        terms(9, "DROP of a SEND that is POSTED, or SEEN and no PIECE of which LEFT: it is DROPPED, its PIECES are"
+            + " none any more (4: it is not so)");
         make("card 4 10 2;flow 0;flow 0");
         refused("drop of none", () -> x.drop(0), 4);
         refused("drop -1", () -> x.drop(-1), 4);
@@ -478,6 +523,16 @@ public final class TermsEdgeTest extends Asked {
             x.drop(n);
         }
         refused("drop of one forgotten", () -> x.drop(1), 4);
+        make("card 4 10 1;flow 10;send 0 20 10;send 0 10 10;send 0 10 10");
+        due("behind two", x.piece(2, 0, 1), 66);
+        due("next", x.flow(0, 4), 88);
+        x.drop(1);
+        due("behind one", x.piece(2, 0, 1), 44);
+        due("next", x.flow(0, 4), 66);
+        x.drop(2);
+        due("next", x.flow(0, 4), 44);
+        x.drop(0);
+        due("no next any more", x.flow(0, 4), 0);
         terms(10, "PAUSE, GO of a FLOW (2; 5: it is so already)");
         make("flow 0;flow 0");
         refused("go of one that goes", () -> x.pause(0, true), 5);
@@ -522,6 +577,15 @@ public final class TermsEdgeTest extends Asked {
     }
 
     static void heads() {
+        terms(16, "a HEAD of 12 bytes, 6 words of 2 bytes, the higher one first, then its bytes");
+        make("card 4 40 1;flow 0;flow 0 from 258;send 0 1 10;send 1 3 10");
+        int[] bytes = {0, 15, 0, 64, 0, 0, 1, 2, 0, 19, x.piece(1, 0, 4) / 256, x.piece(1, 0, 4) % 256, 8, 22, 38};
+        for (int k = 0; k < bytes.length; k++) {
+            due("byte " + k, x.octet(1, 0, k), bytes[k]);
+        }
+        terms(15, "its 16 bits turned over");
+        make("flow 0;send 0 1 10");
+        due("13 and 3", x.piece(0, 0, 4), 65535 - 16);
         terms(15, "SIZE: 12 and how many bytes.");
         make("card 4 40 1;flow 0");
         x.send(0, 1, 10, 0);
@@ -651,6 +715,20 @@ public final class TermsEdgeTest extends Asked {
         for (int n = 0; n < departs.length; n++) {
             due("depart of " + n, x.piece(n, 0, 1), departs[n]);
         }
+        terms(15, "then of its PIECES that are SEEN and did not leave, by SENDS, then by numbers");
+        make("card 8 40 8;flow 10;send 0 15 10 at 50;send 0 1 10;send 0 1 10 at 89;send 0 1 10");
+        due("not seen, no next", x.flow(0, 4), 0);
+        x.bell();
+        int[][] pieces = {{0, 0, 50}, {0, 1, 72}, {1, 0, 89}, {2, 0, 102}, {3, 0, 115}};
+        for (int[] d : pieces) {
+            due("depart of piece " + d[1] + " of " + d[0], x.piece(d[0], d[1], 1), d[2]);
+        }
+        due("next behind all", x.flow(0, 4), 128);
+        terms(15, "NEXT then: that and GAP of its SIZE.");
+        make("flow 10;send 0 1 10;send 0 1 10 at 12;send 0 1 10 at 27");
+        due("right behind", x.piece(1, 0, 1), 13);
+        due("later than next", x.piece(2, 0, 1), 27);
+        due("next then", x.flow(0, 4), 40);
         terms(15, "(DEPART of one that LEFT stays.)");
         make("card 8 40 1;flow 10;send 0 20 10;tick 23;rate 0 1;send 0 1 10 at 9999");
         due("depart", x.piece(0, 0, 1), 0);
@@ -705,14 +783,21 @@ public final class TermsEdgeTest extends Asked {
             due("the wire is free of " + what, x.count(17), 0);
             due("busy by " + what, x.count(13), s[2]);
         }
+        terms(12, "It is t + 1 then.");
+        x.tick(1);
+        due("time", x.count(4), 1);
+        x.tick(99);
+        due("time", x.count(4), 100);
+        right("tick 1;tick 99", 2);
+        due("time", x.count(4), 200);
         terms(12, "if the wire is free");
         make("card 4 10 1;flow 0");
         x.send(0, 16, 8 + 2, 0);
         due("22 bytes have it for 3 ticks", of(() -> x.tick(3)), 1);
         due("then it is free at once", of(() -> x.tick(1)), 1);
         due("left", x.piece(0, 1, 2), 3);
-        terms(12, "As the last of these TICKS is over, the PIECE is GONE, at that time; if all PIECES of its SEND are, that"
-            + " is DONE, at that time.");
+        terms(12, "As the last of these TICKS is over, the PIECE is GONE, at that time; if all PIECES of its SEND"
+            + " are, that is DONE, at that time.");
         due("nothing is done", x.done(0, false), -1);
         make("card 4 10 1;flow 0;send 0 16 10;tick 3");
         due("first is gone", x.piece(0, 0, 3), 3);
@@ -727,8 +812,8 @@ public final class TermsEdgeTest extends Asked {
     }
 
     static void reclaims() {
-        terms(39, "RECLAIMED, whenever it may be: the least SEND that is not yet, if it is DONE or DROPPED, then the next one,"
-            + " and on.");
+        terms(39, "RECLAIMED, whenever it may be: the least SEND that is not yet, if it is DONE or DROPPED, then the"
+            + " next one, and on.");
         make("card 8 40 1;flow 0;flow 0;pause 0");
         due("none", x.count(6), 0);
         x.send(0, 1, 10, 0);
@@ -784,8 +869,8 @@ public final class TermsEdgeTest extends Asked {
     }
 
     static void takenBack() {
-        terms(13, "the latest ACT that was done by a call and not refused, not taken back yet (TICKS of one call are one; 8"
-            + " are remembered): all is as ahead of it");
+        terms(13, "the latest ACT that was done by a call and not refused, not taken back yet (TICKS of one call are"
+            + " one; 8 are remembered): all is as ahead of it");
         make("card 8 10 2;flow 50 from 3;flow 0");
         LongSupplier[] acts = {() -> x.send(0, 30, 10, 0), () -> x.send(1, 20, 10, 0), () -> x.tick(4),
             () -> x.pause(0, false), () -> x.rate(0, 9), () -> x.send(1, 9, 10, 0), () -> x.bell(), () -> x.drop(2),
@@ -807,6 +892,19 @@ public final class TermsEdgeTest extends Asked {
         due("remembered", x.count(18), 1);
         due("undo", of(() -> x.undo()), 0);
         alike("behind undo", allButRemembered(), ahead[2]);
+        busy();
+        for (LongSupplier act : new LongSupplier[] {() -> x.tick(1), () -> x.send(1, 7, 10, 200), () -> x.rate(0, 5),
+            () -> x.pause(2, true), () -> x.tick(9), () -> x.send(5, 50, 10, 0), () -> x.send(2, 50, 10, 0),
+            () -> x.drop(36), () -> x.pause(1, false), () -> x.tick(50), () -> x.send(0, 7, 10, 0), () -> x.bell(),
+            () -> x.tick(99)}) {
+            String now = allButRemembered();
+            due("act", of(act) >= 0, true);
+            String then = allButRemembered();
+            due("undo", of(() -> x.undo()) > 0, true);
+            alike("as ahead of it", allButRemembered(), now);
+            due("act again", of(act) >= 0, true);
+            alike("as behind it", allButRemembered(), then);
+        }
         terms(13, "A text that is right, going back: none are remembered.");
         x.bell();
         right("bell", 1);
@@ -835,8 +933,8 @@ public final class TermsEdgeTest extends Asked {
     static void whys() {
         terms(6, "WHY (0 at first)");
         due("why", x.why(), 0);
-        terms(6, "of the latest ACT by a call, or of a text that was wrong by it, the number by which it was refused; 0, if it"
-            + " was done");
+        terms(6, "of the latest ACT by a call, or of a text that was wrong by it, the number by which it was refused;"
+            + " 0, if it was done");
         make("card 1 10 1;" + SIX_FLOWS);
         wrongBy("flow 0", 0, 1);
         due("rate", of(() -> x.rate(0, 0)), 0);

@@ -191,6 +191,27 @@ class Asked {
         }
     }
 
+    /** More sends than slots, more rows and done ones than are kept, all flows; no count is 0. */
+    static void busy() {
+        make("card 8 40 2;flow 0 from 5;flow 90;flow 0;flow 7;flow 0;flow 0 from 9999");
+        for (int i = 0; i < 15; i++) {
+            right("send 0 25 10;send 1 15 10 at " + 9 * i + ";tick 8", 3);
+        }
+        right("send 2 9 10;send 4 30 15;pause 2;send 4 1 10;bell;tick 8;send 3 40 10;send 5 99 100;tick 2", 9);
+        x.send(0, 12, 10, 0);
+        x.tick(1);
+        for (int what = 0; what < 19; what++) {
+            due("count " + what + " is none of 0", x.count(what) > 0, true);
+        }
+    }
+
+    /** All, some acts later: by this is seen what cannot be asked for yet. */
+    static String later() {
+        right("send 0 33 10;bell;tick 20;rate 0 17;tick 2;send 1 5 10", 6);
+        x.tick(30);
+        return all();
+    }
+
     /**
      * All that can be asked but WHY, the TAPE, fault() and THE IMAGE. It takes more calls than the 512 that the
      * document speaks of; the class counts no calls.
