@@ -476,6 +476,11 @@ public final class TermsEdgeTest extends Asked {
                 due("piece " + k + " of " + what, x.piece(0, k, 0), 12 + c[1]);
             }
         }
+        make("card 8 40 1;flow 0;send 0 1 10;tick 2;send 0 200 10;tick 3");
+        due("the most pieces leave those of another send alone: left", x.piece(0, 0, 2), 0);
+        due("gone", x.piece(0, 0, 3), 1);
+        due("their own: left", x.piece(1, 2, 2), 4);
+        due("not yet", x.piece(1, 3, 2), -1);
         terms(14, "its PLACE is FIRST of its FLOW and LENGTH of all SENDS of that FLOW that were SEEN ahead of it,"
             + " together");
         make("card 8 40 8;flow 0 from 9999;flow 0");
